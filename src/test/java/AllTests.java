@@ -1,6 +1,7 @@
 /** Runs every test of the project; the exit code is 1 if one of them fails. */
 public final class AllTests {
     public static void main(String[] arguments) {
+        TermsTest.run();
         CapacitorTest.run();
         SettingsTest.run();
         WeightsTest.run();
@@ -11,6 +12,7 @@ public final class AllTests {
         ModelTest.run();
         FaceTest.run();
         RoomTest.run();
+        Doc.run();
         System.out.println(Check.passed + " passed, " + Check.failed + " failed");
         if (Check.failed != 0) {
             System.exit(1);

@@ -1,24 +1,31 @@
 /** Promises 1 to 4: a new object and the capacitor. */
 final class CapacitorTest {
     static void run() {
-        Check.test("promise 1: a new object is as the document says", () -> {
+        newObject();
+        sampling();
+        samplingAnswers();
+        holding();
+        reading();
+    }
+
+    private static void newObject() {
+        Doc.promise(1, "Creates a converter with an empty capacitor.", () -> {
             WeighingConverter x = new WeighingConverter();
             Check.equal(0, x.voltage());
+            Check.equal(0, x.convert());
+            Check.equal(0, x.error(0));
+        });
+        Check.test("promise 1: a new object is as the document says", () -> {
+            WeighingConverter x = new WeighingConverter();
             Check.weightsAre(x, 128, 64, 32, 16, 8, 4, 2, 1);
             Check.equal(0, x.logged());
             Check.equal(0, x.savedStates());
             Check.equal(0, x.clearText());
-            Check.equal(0, x.convert());
             Check.equal(0, x.setOffset(0));
             Check.equal(8, x.setCapacitor(16, 0));
             for (int step = 0; step < 12; step++) {
-                Check.equal(0, x.setGlitch(step) ? 1 : 0);
+                Check.isTrue("no glitch", !x.setGlitch(step));
             }
-        });
-        Check.test("promise 1: at first nothing leaks", () -> {
-            WeighingConverter x = new WeighingConverter();
-            x.sample(60000, 99);
-            Check.equal(60000, x.hold(99));
         });
         Check.test("promise 1: objects do not share their state", () -> {
             WeighingConverter x = new WeighingConverter();
@@ -32,12 +39,10 @@ final class CapacitorTest {
             Check.equal(0, y.clearText());
             Check.equal(128, new WeighingConverter().weight(0));
         });
-        sampling();
-        holding();
     }
 
     private static void sampling() {
-        Check.test("promise 2: each tick goes the rate's part of the way, up and down", () -> {
+        Doc.promise(2, "Samples an input.", () -> {
             WeighingConverter x = new WeighingConverter();
             Check.equal(800, x.sample(1600, 1));
             Check.equal(1400, x.sample(1600, 2));
@@ -46,46 +51,68 @@ final class CapacitorTest {
             Check.equal(800, x.sample(0, 1));
             Check.equal(0, x.sample(0, 99));
         });
-        Check.test("promise 2: the change is rounded toward zero, up and down", () -> {
+        Check.test("promise 2: the leak does not count while it samples", () -> {
             WeighingConverter x = new WeighingConverter();
-            x.setCapacitor(1, 0);
-            Check.equal(6, x.sample(100, 1));
-            Check.charge(x, 100, 0);
-            x.setCapacitor(1, 0);
-            Check.equal(94, x.sample(0, 1));
-            Check.equal(89, x.sample(0, 1));
+            x.setCapacitor(8, 64);
+            Check.equal(32000, x.sample(64000, 1));
+            Check.equal(64000, x.sample(64000, 99));
         });
-        Check.test("promise 2: where the change would be 0, it is 1 toward the input", () -> {
-            WeighingConverter x = new WeighingConverter();
-            x.setCapacitor(1, 0);
-            Check.equal(1, x.sample(15, 1));
-            Check.equal(8, x.sample(15, 7));
-            Check.equal(15, x.sample(15, 7));
-            Check.equal(15, x.sample(15, 99));
-            Check.equal(14, x.sample(0, 1));
-            Check.equal(15, x.sample(31, 1));
-        });
-        Check.test("promise 2: the edges of its range", () -> {
+        Check.undoable(2, x -> x.sample(9, 9));
+        Doc.promise(2, "`voltage`: 0 to 65535, the input", () -> {
             WeighingConverter x = new WeighingConverter();
             x.setCapacitor(16, 0);
             Check.equal(65535, x.sample(65535, 1));
-            Check.equal(0, x.sample(0, 99));
+            Check.equal(0, x.sample(0, 1));
             Check.equal(3, x.savedStates());
+            Check.refusedArgument(x, () -> x.sample(-1, 1));
+            Check.refusedArgument(x, () -> x.sample(65536, 1));
         });
-        Check.test("promise 2: wrong arguments are refused", () -> {
+        Doc.promise(2, "`ticks`: 1 to 99", () -> {
             WeighingConverter x = new WeighingConverter();
-            x.sample(500, 3);
-            for (int voltage : new int[] {-1, 65536, Integer.MIN_VALUE, Integer.MAX_VALUE}) {
-                Check.refusedArgument(x, () -> x.sample(voltage, 1));
-            }
-            for (int ticks : new int[] {0, 100, -1, Integer.MIN_VALUE, Integer.MAX_VALUE}) {
-                Check.refusedArgument(x, () -> x.sample(1, ticks));
-            }
+            x.setCapacitor(1, 0);
+            Check.equal(1, x.sample(15, 1));
+            Check.equal(2, x.sample(15, 1));
+            Check.charge(x, 50000, 0);
+            x.setCapacitor(1, 0);
+            Check.equal(sampledOneByOne(50000, 65535, 99), x.sample(65535, 99));
+            Check.refusedArgument(x, () -> x.sample(9, 0));
+            Check.refusedArgument(x, () -> x.sample(9, 100));
         });
     }
 
+    private static void samplingAnswers() {
+        Doc.promise(2, "Returns the voltage of the capacitor after the call.", () -> {
+            WeighingConverter x = new WeighingConverter();
+            for (int voltage : new int[] {65535, 100, 0, 15, 15}) {
+                int answer = x.sample(voltage, 1);
+                Check.equal(x.voltage(), answer);
+            }
+        });
+        Doc.promise(2, "Throws `IllegalArgumentException` if an argument is out of range", () -> {
+            WeighingConverter x = new WeighingConverter();
+            x.sample(500, 3);
+            for (int far : Check.FAR) {
+                Check.refusedArgument(x, () -> x.sample(far, 1));
+                Check.refusedArgument(x, () -> x.sample(1, far));
+                Check.refusedArgument(x, () -> x.sample(far, far));
+            }
+            Check.refusedArgument(x, () -> x.sample(65536, 99));
+            Check.refusedArgument(x, () -> x.sample(65535, 100));
+            Check.refusedArgument(x, () -> x.sample(1, -1));
+        });
+    }
+
+    /** With the rate 1, upwards. */
+    private static int sampledOneByOne(int voltage, int input, int ticks) {
+        int sampled = voltage;
+        for (int tick = 0; tick < ticks; tick++) {
+            sampled += Math.max((input - sampled) / 16, sampled == input ? 0 : 1);
+        }
+        return sampled;
+    }
+
     private static void holding() {
-        Check.test("promise 3: each tick takes the leak's part, rounded toward zero", () -> {
+        Doc.promise(3, "Holds the voltage.", () -> {
             WeighingConverter x = new WeighingConverter();
             Check.charge(x, 65535, 64);
             Check.equal(64512, x.hold(1));
@@ -95,28 +122,41 @@ final class CapacitorTest {
             Check.charge(x, 64, 64);
             Check.equal(63, x.hold(1));
             Check.equal(63, x.hold(99));
-            Check.charge(x, 4096, 1);
-            Check.equal(4095, x.hold(1));
-            Check.equal(4095, x.hold(99));
         });
-        Check.test("promise 3: 99 ticks are 99 ticks", () -> {
+        Check.undoable(3, x -> x.hold(9));
+        Doc.promise(3, "`ticks`: 1 to 99", () -> {
             WeighingConverter x = new WeighingConverter();
-            Check.charge(x, 65535, 3);
-            int held = 65535;
-            for (int tick = 0; tick < 99; tick++) {
-                held -= held * 3 / 4096;
-            }
-            Check.equal(held, x.hold(99));
+            // With leak 1, each tick takes 1 from a voltage between 4096 and 8191.
+            Check.charge(x, 8191, 1);
+            Check.equal(8190, x.hold(1));
+            Check.equal(8091, x.hold(99));
+            Check.refusedArgument(x, () -> x.hold(0));
+            Check.refusedArgument(x, () -> x.hold(100));
         });
-        Check.test("promise 3: wrong arguments are refused", () -> {
+        Doc.promise(3, "Returns the voltage of the capacitor after the call.", () -> {
             WeighingConverter x = new WeighingConverter();
             Check.charge(x, 5000, 64);
-            for (int ticks : new int[] {0, 100, -1, Integer.MIN_VALUE, Integer.MAX_VALUE}) {
-                Check.refusedArgument(x, () -> x.hold(ticks));
+            for (int ticks = 1; ticks < 99; ticks += 7) {
+                int answer = x.hold(ticks);
+                Check.equal(x.voltage(), answer);
             }
         });
-        Check.test("promise 4: the voltage after each kind of call", () -> {
+        Doc.promise(3, "Throws `IllegalArgumentException` if ticks is out of range", () -> {
             WeighingConverter x = new WeighingConverter();
+            Check.charge(x, 5000, 64);
+            Check.refusedArgument(x, () -> x.hold(-1));
+            for (int far : Check.FAR) {
+                Check.refusedArgument(x, () -> x.hold(far));
+            }
+        });
+    }
+
+    private static void reading() {
+        Doc.promise(4, "Returns the voltage of the capacitor.", () -> {
+            WeighingConverter x = new WeighingConverter();
+            Check.equal(0, x.voltage());
+            Check.charge(x, 65535, 0);
+            Check.equal(65535, x.voltage());
             Check.charge(x, 4095, 64);
             Check.equal(4095, x.voltage());
             x.hold(1);

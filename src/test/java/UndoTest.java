@@ -1,37 +1,30 @@
+import java.math.BigInteger;
+import java.util.ArrayList;
 import java.util.List;
 
 /** Promises 32 to 34: undo and the digest. */
 final class UndoTest {
     static void run() {
         undoing();
+        undoingRefused();
         counting();
         digests();
     }
 
     private static void undoing() {
-        Check.test("promise 32: each undoable call is undone", () -> {
+        Doc.promise(32, "Restores the state that was saved last, and removes it from the saved states.", () -> {
             WeighingConverter x = new WeighingConverter();
-            Check.charge(x, 4000, 5);
+            x.setOffset(1);
+            x.setOffset(2);
+            x.undo();
+            Check.equal(1, x.savedStates());
             x.setOffset(3);
-            x.setGlitch(1);
-            x.convert();
-            x.setGlitch(9);
-            x.setWeight(0, 1);
-            List<Check.Body> calls = List.of(() -> x.sample(9, 9), () -> x.hold(9), () -> x.setCapacitor(2, 0),
-                () -> x.setOffset(-64), () -> x.setGlitch(0), () -> x.setWeight(1, 9),
-                () -> x.insertWeight(0, 9), () -> x.removeWeight(0), x::sortWeights, x::convert,
-                () -> {
-                    Check.type(x, "9,9");
-                    x.load();
-                });
-            for (Check.Body call : calls) {
-                int savedBefore = x.savedStates();
-                long before = x.digest();
-                call.run();
-                Check.equal(Math.min(savedBefore + 1, 6), x.savedStates());
-                Check.equal(x.savedStates() - 1, x.undo());
-                Check.equal(before, x.digest());
-            }
+            x.undo();
+            Check.equal(1, x.setOffset(0));
+            x.undo();
+            x.undo();
+            Check.equal(0, x.savedStates());
+            Check.equal(0, x.setOffset(0));
         });
         Check.test("promise 32: rate, leak, offset and glitches come back", () -> {
             WeighingConverter x = new WeighingConverter();
@@ -53,6 +46,21 @@ final class UndoTest {
             Check.equal(4095, x.hold(1));
             Check.equal(16, x.setCapacitor(1, 0));
         });
+        Check.test("promise 32: all twelve weights come back, each one and their number", () -> {
+            WeighingConverter x = Check.withWeights("1,2,3,4,5,6,7,8,9,10,11,12");
+            for (int number = 0; number < 12; number++) {
+                x.setWeight(number, 2048);
+                x.undo();
+            }
+            x.sortWeights();
+            x.undo();
+            x.removeWeight(11);
+            x.undo();
+            Check.type(x, "7");
+            x.load();
+            x.undo();
+            Check.weightsAre(x, 1, 2, 3, 4, 5, 6, 7, 8, 9, 10, 11, 12);
+        });
         Check.test("promise 32: the log comes back, the one that was pushed out too", () -> {
             WeighingConverter x = new WeighingConverter();
             x.setCapacitor(16, 0);
@@ -66,63 +74,58 @@ final class UndoTest {
             Check.equal(8, x.logged());
             Check.equal(8, x.code(0));
             Check.equal(1, x.code(7));
-            Check.equal(1, x.kept(7) / 128);
+            Check.equal(128, x.kept(7));
             Check.equal(-1, x.error(7));
         });
-        Check.test("promise 32: six states at most, the oldest ones are discarded", () -> {
+        Doc.promise(32, "Returns the number of saved states that are left.", () -> {
             WeighingConverter x = new WeighingConverter();
             for (int offset = 1; offset <= 10; offset++) {
                 x.setOffset(offset);
-                Check.equal(Math.min(offset, 6), x.savedStates());
             }
             for (int left = 5; left >= 0; left--) {
                 Check.equal(left, x.undo());
             }
-            Check.refusedState(x, x::undo);
-            Check.equal(4, x.setOffset(0));
+            x.setOffset(0);
             Check.equal(0, x.undo());
-            Check.refusedState(x, x::undo);
         });
-        Check.test("promise 32: what was undone does not come back", () -> {
-            WeighingConverter x = new WeighingConverter();
-            x.setOffset(1);
-            x.setOffset(2);
-            x.undo();
-            x.setOffset(3);
-            x.undo();
-            Check.equal(1, x.setOffset(0));
-            x.undo();
-            Check.equal(0, x.undo());
-            Check.equal(0, x.setOffset(0));
-        });
-        Check.test("promise 32: the buffer is not undone", () -> {
-            WeighingConverter x = new WeighingConverter();
-            x.setOffset(1);
-            Check.type(x, "77");
-            x.undo();
-            Check.equal(2, x.clearText());
-        });
-        Check.test("promise 32: without a saved state it is refused", () -> {
+    }
+
+    private static void undoingRefused() {
+        Doc.promise(32, "Throws `IllegalStateException` if no state is saved", () -> {
             WeighingConverter x = new WeighingConverter();
             Check.refusedState(x, x::undo);
             x.append('1');
             Check.refusedState(x, x::undo);
+            x.hold(1);
+            Check.equal(0, x.undo());
+            Check.refusedState(x, x::undo);
+            for (int offset = 1; offset <= 7; offset++) {
+                x.setOffset(offset);
+            }
+            for (int count = 0; count < 6; count++) {
+                x.undo();
+            }
+            Check.refusedState(x, x::undo);
+            Check.equal(1, x.setOffset(0));
+            Check.equal(1, x.clearText());
         });
     }
 
     private static void counting() {
-        Check.test("promise 33: a call that changes nothing is saved too", () -> {
+        Doc.promise(33, "Returns the number of saved states, 0 to 6.", () -> {
             WeighingConverter x = new WeighingConverter();
-            x.hold(1);
-            x.sample(0, 1);
-            x.setOffset(0);
-            x.setCapacitor(8, 0);
-            x.sortWeights();
+            Check.equal(0, x.savedStates());
+            for (int count = 1; count <= 20; count++) {
+                x.hold(1);
+                Check.equal(Math.min(count, 6), x.savedStates());
+            }
+            x.undo();
             Check.equal(5, x.savedStates());
-            x.setGlitch(0);
+            x.hold(1);
             Check.equal(6, x.savedStates());
-            x.setGlitch(0);
-            Check.equal(6, x.savedStates());
+            Check.undoAll(x);
+            x.hold(1);
+            Check.equal(1, x.savedStates());
         });
         Check.test("promise 33: calls that are not undoable, or refused, save nothing", () -> {
             WeighingConverter x = new WeighingConverter();
@@ -132,55 +135,88 @@ final class UndoTest {
             x.total();
             x.logged();
             x.meanError();
-            x.append('1');
+            x.ideal(5);
+            x.nextCode();
+            x.sums();
+            x.leastMissing();
+            x.mended(0);
+            x.ticksToChange();
+            x.ticksToSettle(5);
+            x.append('x');
             x.firstError();
-            x.clearText();
             x.digest();
             Check.equal(0, x.savedStates());
             Check.refusedArgument(x, x::load);
+            x.clearText();
             Check.equal(0, x.savedStates());
         });
     }
 
+    /** The document's list of values, read by the calls themselves. */
+    private static List<Integer> values(WeighingConverter x) {
+        List<Integer> values = new ArrayList<>(List.of(x.voltage(), x.weights(), x.total(), x.nextCode(), x.sums(),
+            x.leastMissing(), x.ticksToChange(), x.logged()));
+        for (int number = 0; number < x.weights(); number++) {
+            values.add(x.weight(number));
+            values.add(x.mended(number));
+        }
+        for (int conversion = 0; conversion < x.logged(); conversion++) {
+            values.addAll(List.of(x.code(conversion), x.kept(conversion), x.error(conversion)));
+        }
+        return values;
+    }
+
+    private static long hash(List<Integer> values) {
+        long hash = 8399;
+        for (int value : values) {
+            hash = 31 * hash + value;
+        }
+        return hash;
+    }
+
     private static void digests() {
-        Check.test("promise 34: the hash of a new object", () -> {
-            long hash = 8399;
-            int[] values = {0, 8, 255, 0, 256, 256, -1, 0, 128, 0, 64, 0, 32, 0, 16, 0, 8, 0, 4, 0, 2, 0, 1, 0};
-            for (int value : values) {
-                hash = 31 * hash + value;
-            }
-            Check.equal(hash, new WeighingConverter().digest());
-        });
-        Check.test("promise 34: the values and their order", () -> {
-            WeighingConverter x = Check.withWeights("4,2,2,1");
-            Check.charge(x, 100, 64);
-            x.convert();
-            x.setGlitch(3);
-            x.convert();
-            x.setOffset(20);
-            long hash = 8399;
-            int[] first = {x.voltage(), 4, 9, x.nextCode(), 10, 10, x.ticksToChange(), 2};
-            for (int value : first) {
-                hash = 31 * hash + value;
-            }
-            for (int number = 0; number < 4; number++) {
-                hash = 31 * hash + x.weight(number);
-                hash = 31 * hash + x.mended(number);
-            }
-            for (int conversion = 0; conversion < 2; conversion++) {
-                hash = 31 * hash + x.code(conversion);
-                hash = 31 * hash + x.kept(conversion);
-                hash = 31 * hash + x.error(conversion);
-            }
-            Check.equal(hash, x.digest());
-            Check.equal(hash, x.digest());
-        });
-        Check.test("promise 34: the buffer and the saved states do not count", () -> {
+        Doc.promise(34, "Computes a hash of the state.", () -> {
             WeighingConverter x = new WeighingConverter();
             long before = x.digest();
+            Check.equal(before, x.digest());
             x.append('1');
             x.hold(1);
             Check.equal(before, x.digest());
+            x.sample(1, 1);
+            Check.isTrue("another state", before != x.digest());
+        });
+        Doc.promise(34, "The hash starts at 8399.", () -> Check.equal(hash(List.of(0, 8, 255, 0, 256, 256, -1, 0, 128, 0,
+            64, 0, 32, 0, 16, 0, 8, 0, 4, 0, 2, 0, 1, 0)), new WeighingConverter().digest()));
+        Doc.promise(34, "For each value v of the following list, in order, the hash becomes 31 * hash + v, in long "
+            + "arithmetic with overflow.", () -> {
+                WeighingConverter x = Check.worn();
+                BigInteger hash = BigInteger.valueOf(8399);
+                for (int value : values(x)) {
+                    hash = hash.multiply(BigInteger.valueOf(31)).add(BigInteger.valueOf(value));
+                }
+                Check.isTrue("the hash overflows", hash.bitLength() > 63);
+                Check.equal(hash.longValue(), x.digest());
+            });
+        Doc.promise(34, "The values are: what voltage(), weights(), total(), nextCode(), sums(), leastMissing(), "
+            + "ticksToChange() and logged() return; for each weight its size, and what mended() returns; for each "
+            + "conversion of the log what code(), kept() and error() return.", () -> {
+                WeighingConverter x = Check.withWeights("4,2,2,1");
+                Check.charge(x, 100, 64);
+                x.convert();
+                x.setGlitch(3);
+                x.convert();
+                x.setOffset(20);
+                Check.equal(hash(values(x)), x.digest());
+                Check.equal(hash(values(Check.worn())), Check.worn().digest());
+            });
+        Doc.promise(34, "Returns the hash.", () -> {
+            // One weight of 1, which nothing mends, and an empty log.
+            WeighingConverter x = Check.withWeights("1");
+            long hash = 8399;
+            for (int value : new int[] {0, 1, 1, 0, 2, 2, -1, 0, 1, 0}) {
+                hash = 31 * hash + value;
+            }
+            Check.equal(hash, x.digest());
         });
     }
 }
