@@ -12,6 +12,7 @@ public final class AllTests {
         ModelTest.run();
         FaceTest.run();
         RoomTest.run();
+        ReadmeTest.run();
         Doc.run();
         System.out.println(Check.passed + " passed, " + Check.failed + " failed");
         if (Check.failed != 0) {

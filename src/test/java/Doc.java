@@ -6,6 +6,7 @@ import java.nio.file.Path;
 import java.util.ArrayList;
 import java.util.Comparator;
 import java.util.List;
+import java.util.regex.Pattern;
 
 /**
  * The document, sentence by sentence: a test is named by the sentence that it watches, and no sentence
@@ -38,6 +39,10 @@ final class Doc {
         test("promise " + number, number, sentence, body);
     }
 
+    static boolean isUndoable(String call) {
+        return Pattern.compile("(?m)^`\\w+ " + call + "\\(.*`: .* Undoable\\.$").matcher(document()).find();
+    }
+
     private static void test(String place, int part, String sentence, Check.Body body) {
         TESTED.get(part).add(sentence);
         Check.test(place + ": " + sentence, () -> {
@@ -61,14 +66,17 @@ final class Doc {
         }
     }
 
-    /** The terms first, then the promises by their numbers; each one in a single line. */
-    private static List<String> parts() {
-        String text;
+    private static String document() {
         try {
-            text = Files.readString(DOCUMENT, StandardCharsets.UTF_8);
+            return Files.readString(DOCUMENT, StandardCharsets.UTF_8);
         } catch (IOException e) {
             throw new UncheckedIOException(e);
         }
+    }
+
+    /** The terms first, then the promises by their numbers; each one in a single line. */
+    private static List<String> parts() {
+        String text = document();
         text = text.substring(0, text.indexOf("## Not promised")).replaceAll("(?s)```.*?```", "");
         List<String> parts = new ArrayList<>();
         for (String part : text.split("## Promise \\d+: .*\\R")) {
